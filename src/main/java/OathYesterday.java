@@ -154,7 +154,7 @@ public final class OathYesterday {
     }
 
     public int may(int day) {
-        return land.isDay(day) ? counsel.open(day) : NONE;
+        return land.isDay(day) ? counsel.openOn(day) : NONE;
     }
 
     public int most(int day, int what) {
@@ -180,7 +180,8 @@ public final class OathYesterday {
     }
 
     public int guilt(int person) {
-        return land.isThere() && isPerson(person) ? ledger.guiltOf(person) : NONE;
+        int broken = land.isThere() && isPerson(person) ? ledger.cheapest(2) : NONE;
+        return broken == NONE ? NONE : Integer.bitCount(broken & annals.swornBy(person));
     }
 
     public int blame(int what) {
@@ -230,11 +231,19 @@ public final class OathYesterday {
     }
 
     public int duel(int day, int price, int i) {
-        return land.isDay(day) && isPrice(price) ? game.restsOf(day, price, i) : NONE;
+        if (!land.isDay(day) || !isPrice(price)) {
+            return NONE;
+        }
+        game.prepare(day, price);
+        return game.restAt(i);
     }
 
     public int bait(int day, int price) {
-        return land.isDay(day) && isPrice(price) ? game.bestBait(day, price) : NONE;
+        if (!land.isDay(day) || !isPrice(price)) {
+            return NONE;
+        }
+        game.prepare(day, price);
+        return game.bestBait();
     }
 
     public int plan(int oath, int day, int what) {
@@ -798,7 +807,7 @@ public final class OathYesterday {
 
         /** The lives (64 of them at once) in which a deed is done as seen on a day. */
         long seenWord(int deed, int day, int w) {
-            if (deed < 0 || deed >= deeds || day < 0 || day >= SIGHTS || w < 0 || w >= ROW_WORDS) {
+            if (!hasDeed(deed) || day < 0 || day >= SIGHTS || w < 0 || w >= ROW_WORDS) {
                 return 0L;
             }
             return seen[deed * SIGHTS + day][w];
@@ -814,19 +823,26 @@ public final class OathYesterday {
 
         /** Lives in which both are done as seen on a day, the one on an earlier day. */
         long beforeWord(int one, int other, int day, int w) {
+            if (!hasDeed(one) || !hasDeed(other) || w < 0 || w >= ROW_WORDS) {
+                return 0L;
+            }
             long word = 0L;
             for (int k = 1; k < day && k < MAX_DAYS; k++) {
-                word |= seenWord(one, k, w) & seenWord(other, k + 1, w) & ~seenWord(other, k, w);
+                long onDay = seen[other * SIGHTS + k + 1][w] & ~seen[other * SIGHTS + k][w];
+                word |= onDay & seen[one * SIGHTS + k][w];
             }
             return word;
         }
 
         /** Lives in which both are done as seen on a day, on one day. */
         long togetherWord(int one, int other, int day, int w) {
+            if (!hasDeed(one) || !hasDeed(other) || w < 0 || w >= ROW_WORDS) {
+                return 0L;
+            }
             long word = 0L;
             for (int k = 0; k < day && k < MAX_DAYS; k++) {
-                long onOne = seenWord(one, k + 1, w) & ~seenWord(one, k, w);
-                word |= onOne & seenWord(other, k + 1, w) & ~seenWord(other, k, w);
+                long onDay = seen[other * SIGHTS + k + 1][w] & ~seen[other * SIGHTS + k][w];
+                word |= onDay & seen[one * SIGHTS + k + 1][w] & ~seen[one * SIGHTS + k][w];
             }
             return word;
         }
@@ -885,9 +901,6 @@ public final class OathYesterday {
 
     /** Rows of bits, one for each life; what is asked of them, up to so many words. */
     static final class Rows {
-        private Rows() {
-        }
-
         static void clear(long[] row) {
             Arrays.fill(row, 0L);
         }
@@ -1309,12 +1322,12 @@ public final class OathYesterday {
             }
         }
 
-        boolean canBe(int one, int other) {
+        boolean canBoth(int one, int other) {
             return !Rows.meetsNot(court.fitting(), rowOf(one), rowOf(other), land.words());
         }
 
         boolean canBe(int oath) {
-            return canBe(oath, oath);
+            return canBoth(oath, oath);
         }
 
         int datesOf(int deed) {
@@ -1325,8 +1338,12 @@ public final class OathYesterday {
             return dates;
         }
 
-        int open(int day) {
+        int openOn(int day) {
             hearAll(day);
+            return openAsHeard();
+        }
+
+        private int openAsHeard() {
             int open = 0;
             for (int oath = 0; oath < oaths.size(); oath++) {
                 open |= canBe(oath) ? 1 << oath : 0;
@@ -1363,12 +1380,13 @@ public final class OathYesterday {
         }
 
         int hindering(int day) {
-            int open = open(day);
+            hearAll(day);
+            int open = openAsHeard();
             int pairs = 0;
             for (int one = 0; one < oaths.size(); one++) {
                 for (int other = one + 1; other < oaths.size(); other++) {
                     boolean each = (open >> one & open >> other & 1) != 0;
-                    pairs += each && !canBe(one, other) ? 1 : 0;
+                    pairs += each && !canBoth(one, other) ? 1 : 0;
                 }
             }
             return pairs;
@@ -1557,11 +1575,6 @@ public final class OathYesterday {
             return what == 0 ? leastCost : land.numberAt(leastPlace);
         }
 
-        int guiltOf(int person) {
-            int broken = cheapest(2);
-            return broken == NONE ? NONE : Integer.bitCount(broken & annals.swornBy(person));
-        }
-
         int toBlame(int what) {
             int all = annals.allSworn();
             int blamed = NONE;
@@ -1609,7 +1622,11 @@ public final class OathYesterday {
             if (Rows.isEmpty(court.possible(), land.words())) {
                 return NONE;
             }
-            int hopeless = hopeless();
+            int fixed = withoutNames();
+            int hopeless = 0;
+            for (int i = 0; i < annals.swornCount(); i++) {
+                hopeless |= (fixed >> i & 1) != 0 && !canHold(i, i) ? 1 << i : 0;
+            }
             for (int size = 0; size <= annals.swornCount(); size++) {
                 for (int gone = 0; gone <= annals.allSworn(); gone++) {
                     boolean fair = Integer.bitCount(gone) == size && (hopeless & ~gone) == 0;
@@ -1652,16 +1669,6 @@ public final class OathYesterday {
                 fixed |= oaths.named(annals.oathOf(i)) == 0 ? 1 << i : 0;
             }
             return fixed;
-        }
-
-        /** Sworn ones that hold in no possible life, whatever else is there. */
-        private int hopeless() {
-            int fixed = withoutNames();
-            int hopeless = 0;
-            for (int i = 0; i < annals.swornCount(); i++) {
-                hopeless |= (fixed >> i & 1) != 0 && !canHold(i, i) ? 1 << i : 0;
-            }
-            return hopeless;
         }
 
         /** Which of some sworn ones hold in a life, if just those are there for #. */
@@ -1945,8 +1952,25 @@ public final class OathYesterday {
             this.counsel = counsel;
         }
 
-        int restsOf(int day, int pricePaid, int i) {
-            prepare(day, pricePaid);
+        /**
+         * To be called ahead of what is asked below: finds which choices can hold together. Beside
+         * one that swears none, the other one's oath alone has to hold.
+         */
+        void prepare(int day, int pricePaid) {
+            price = pricePaid;
+            counsel.hearAll(day);
+            Arrays.fill(together, 0);
+            int none = oaths.size();
+            for (int one = 0; one < none && one < MAX_OATHS; one++) {
+                for (int other = 0; other < none; other++) {
+                    together[one] |= counsel.canBoth(one, other) ? 1 << other : 0;
+                }
+                together[one] |= counsel.canBe(one) ? 1 << none : 0;
+            }
+        }
+
+        /** The i-th rest, or how many there are. */
+        int restAt(int i) {
             int rests = 0;
             for (int one = 0; one <= oaths.size(); one++) {
                 for (int other = 0; other <= oaths.size(); other++) {
@@ -1960,8 +1984,7 @@ public final class OathYesterday {
             return i == NONE ? rests : NONE;
         }
 
-        int bestBait(int day, int pricePaid) {
-            prepare(day, pricePaid);
+        int bestBait() {
             int bait = 0;
             for (int one = 1; one <= oaths.size(); one++) {
                 if (shareOf(one, answerTo(one)) > shareOf(bait, answerTo(bait))) {
@@ -1969,20 +1992,6 @@ public final class OathYesterday {
                 }
             }
             return 10 * codeOf(bait) + codeOf(answerTo(bait));
-        }
-
-        /** Finds which choices can hold together; with none, it is the other one alone that has to. */
-        private void prepare(int day, int pricePaid) {
-            price = pricePaid;
-            counsel.hearAll(day);
-            Arrays.fill(together, 0);
-            int none = oaths.size();
-            for (int one = 0; one < none && one < MAX_OATHS; one++) {
-                for (int other = 0; other < none; other++) {
-                    together[one] |= counsel.canBe(one, other) ? 1 << other : 0;
-                }
-                together[one] |= counsel.canBe(one) ? 1 << none : 0;
-            }
         }
 
         private int codeOf(int choice) {

@@ -4,7 +4,11 @@ public final class AllTests {
     }
 
     public static void main(String[] args) throws Exception {
+        PromiseTest.run();
+        TextTest.run();
         ModelTest.run();
+        RoomTest.run();
+        LanguageTest.run(args.length > 0 ? args[0] : "src/main/java/OathYesterday.java");
         System.out.println(Check.passed + " passed, " + Check.failed + " failed");
         if (Check.failed > 0) {
             System.exit(1);
