@@ -382,10 +382,10 @@ public final class OathYesterday {
 
         /** The next sign that is no blank; 0 at the end. */
         int sign() {
-            while (place < length && place < TAPE_BYTES && bytes[place] == ' ') {
+            while (place >= 0 && place < length && place < TAPE_BYTES && bytes[place] == ' ') {
                 place++;
             }
-            return place < length && place < TAPE_BYTES ? bytes[place] : 0;
+            return place >= 0 && place < length && place < TAPE_BYTES ? bytes[place] : 0;
         }
 
         /** Where the next sign stands: the fault, if it can't go on there. */
@@ -442,7 +442,7 @@ public final class OathYesterday {
         private void put(int number) {
             for (int shift = 24; shift >= 0; shift -= 8) {
                 int sign = number >>> shift & 255;
-                if (sign != 0 && length < TAPE_BYTES) {
+                if (sign != 0 && length >= 0 && length < TAPE_BYTES) {
                     bytes[length] = sign;
                     length++;
                 }
@@ -479,7 +479,6 @@ public final class OathYesterday {
         /** The fault, or NONE. */
         int read(Tape tape) {
             tape.rewind();
-            deeds = 0;
             if (!tape.passes('t')) {
                 return tape.spot();
             }
@@ -575,7 +574,7 @@ public final class OathYesterday {
         }
 
         boolean has(int oath) {
-            return oath >= 0 && oath < count;
+            return oath >= 0 && oath < count && oath < MAX_OATHS;
         }
 
         int length(int oath) {
@@ -624,8 +623,8 @@ public final class OathYesterday {
         /** Reads into the draft: the fault, or NONE. */
         int read(Tape tape) {
             tape.rewind();
-            lengths[count] = 0;
-            named[count] = 0;
+            lengths[draft()] = 0;
+            named[draft()] = 0;
             if (!readChoices(tape, 0) || !tape.isAtEnd()) {
                 return tape.spot();
             }
@@ -688,18 +687,24 @@ public final class OathYesterday {
             return day != NONE && put(BY, deed, day);
         }
 
+        /** The row behind the last oath. */
+        private int draft() {
+            return count >= 0 && count < lengths.length ? count : 0;
+        }
+
         private boolean putThere(int k) {
-            named[count] |= 1 << k;
+            named[draft()] |= 1 << k;
             return put(THERE, k, 0);
         }
 
         private boolean put(int kind, int one, int other) {
-            int at = lengths[count];
+            int draft = draft();
+            int at = lengths[draft];
             if (at < 0 || at >= TAPE_BYTES) {
                 return false;
             }
-            codes[count][at] = kind << 8 | one << 4 | other;
-            lengths[count] = at + 1;
+            codes[draft][at] = kind << 8 | one << 4 | other;
+            lengths[draft] = at + 1;
             return true;
         }
     }
@@ -737,7 +742,7 @@ public final class OathYesterday {
         }
 
         boolean hasDeed(int deed) {
-            return deed >= 0 && deed < deeds;
+            return deed >= 0 && deed < deeds && deed < MAX_DEEDS;
         }
 
         /** A day on which an oath can be sworn. */
@@ -1175,7 +1180,7 @@ public final class OathYesterday {
 
     /** In which lives an oath holds, and the lives that are possible and that fit. */
     static final class Court {
-        /** Six levels of ( each leave two words below, and a choice of a choice two more. */
+        /** Each of seven levels of ( leaves two words waiting at most, one for | and one for &. */
         private static final int STACK = 16;
 
         private final Land land;
@@ -1724,8 +1729,8 @@ public final class OathYesterday {
         private final Court court;
         private final long[] levels = new long[LEVELS];
         private final long[] trial = new long[ROW_WORDS];
-        private long heaviest;
-        private int heaviestPlace;
+        private long greatestProduct;
+        private int greatestPlace;
 
         Chances(Land land, Annals annals, Court court) {
             this.land = land;
@@ -1764,10 +1769,10 @@ public final class OathYesterday {
         }
 
         int heaviest() {
-            heaviest = -1L;
-            heaviestPlace = NONE;
+            greatestProduct = -1L;
+            greatestPlace = NONE;
             seekHeaviest(court.fitting(), 0, 0, 1L);
-            return land.numberAt(heaviestPlace);
+            return land.numberAt(greatestPlace);
         }
 
         int drawnBy(long seed) {
@@ -1912,9 +1917,9 @@ public final class OathYesterday {
         /** Places come rising, so that of several the first one stays. */
         private void seekHeaviest(long[] row, int deed, int place, long product) {
             if (!land.hasDeed(deed)) {
-                if (product > heaviest && Rows.has(row, place)) {
-                    heaviest = product;
-                    heaviestPlace = place;
+                if (product > greatestProduct && Rows.has(row, place)) {
+                    greatestProduct = product;
+                    greatestPlace = place;
                 }
                 return;
             }

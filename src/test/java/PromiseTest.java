@@ -134,6 +134,10 @@ final class PromiseTest {
         due("nothing is fine", x.feed(0, 0, 0, 0, 0), 119);
         due("the 120th", x.feed(0, 0, 0x00006100, 0, 0), 120);
         due("the 121st", x.feed(0, 0, 0, 0, 1), NONE);
+        due("in the second number", x.feed(0, 1, 0, 0, 0), NONE);
+        due("in the third number", x.feed(0, 0, 1, 0, 0), NONE);
+        due("in the fourth number", x.feed(0, 0, 0, 1, 0), NONE);
+        due("the highest byte of the first", x.feed(0x80000000, 0, 0, 0, 0), NONE);
         due("still none more", x.feed(0, 0, 0, 0, 0), 120);
         due("fault of the full tape", x.fault(1), NONE);
         due("as a land", x.fault(0), 119);
