@@ -1,4 +1,4 @@
-/** Runs all tests of the project; the first argument is the path of the class's source. */
+/** Runs all tests of the project; arguments are the paths of the class's source and of the document. */
 public final class AllTests {
     private AllTests() {
     }
@@ -7,11 +7,21 @@ public final class AllTests {
         PromiseTest.run();
         TextTest.run();
         ModelTest.run();
+        boundaries(args.length > 1 ? args[1] : "../shared/DOC.md");
         RoomTest.run();
         LanguageTest.run(args.length > 0 ? args[0] : "src/main/java/OathYesterday.java");
         System.out.println(Check.passed + " passed, " + Check.failed + " failed");
         if (Check.failed > 0) {
             System.exit(1);
         }
+    }
+
+    private static void boundaries(String document) throws Exception {
+        BoundTexts.run();
+        BoundActs.run();
+        BoundLives.run();
+        BoundChances.run();
+        BoundGames.run();
+        Bound.compareWithDocument(document);
     }
 }
