@@ -276,6 +276,9 @@ final class BoundChances {
         OathYesterday x = swornBy("t2;e", new int[] {0, 1}, "a", "!a");
         x.fact(0, 9, false);
         fall(least, "by a fact the second", x, 1, 2);
+        OathYesterday first = swornBy("t2;e", new int[] {0, 1}, "!a", "a");
+        first.fact(0, 0, true);
+        fall(least, "in the first life alone", first, 1, 1);
         Bound none = Bound.of(30, "NONE: no LIFE is POSSIBLE");
         none.refusedBy("what", Bound::noLife, NONE, (y, v) -> y.fall(v), 0, 1);
         none.refusedBy("nothing is sworn, what", () -> facts("t2;e", new int[][] {{0, 0, 1}, {0, 1, 1}}), NONE,

@@ -45,6 +45,14 @@ final class BoundLives {
         return life;
     }
 
+    /** The least life alone is possible: both deeds on their first days. */
+    private static OathYesterday firstAlone() {
+        OathYesterday x = Bound.six();
+        x.fact(0, 0, true);
+        x.fact(1, 1, true);
+        return x;
+    }
+
     private static OathYesterday sworn(int times, int oath, int day, int cost) {
         OathYesterday x = Bound.six();
         for (int i = 0; i < times; i++) {
@@ -414,6 +422,7 @@ final class BoundLives {
         least.due("one of two", Check.made("t2;e", "a", "!a").most(2, 0), 1);
         least.due("the first", Check.made("t2;e", "a", "!a").most(2, 1), 1);
         least.due("the first, in the last lives", Bound.big("!a", "a").most(6, 1), 1);
+        least.due("the first, in the first lives", Bound.big("a", "!a").most(6, 1), 1);
         least.due("two of three", Check.made("t2;e;e", "a", "!a", "b").most(2, 1), 5);
         least.due("more ahead of less bits", Check.made("t2;e;e", "!a&!b", "a", "b").most(2, 1), 6);
         Bound none = Bound.of(17, "NONE: no LIFE FITS");
@@ -619,6 +628,10 @@ final class BoundLives {
         other.swear(1, 3, 3, 6);
         least.due("another life costs nothing then", other.blame(1), 0);
         least.due("of both the lower one", other.blame(0), 1);
+        OathYesterday first = firstAlone();
+        first.swear(5, 3, 3, 9);
+        least.due("in the first life alone", first.blame(0), 5);
+        least.due("nothing is left of 9", first.blame(1), 0);
         Bound none = Bound.of(23, "NONE likewise.");
         none.refusedBy("no life is possible", Bound::noLife, NONE, (z, v) -> z.blame(v), 0, 1);
         none.refusedBy("no land", Bound::noLand, NONE, (z, v) -> z.blame(v), 0, 1);
@@ -648,6 +661,11 @@ final class BoundLives {
         z.swear(3, 1, 3, 1);
         own.due("# of its own is there", z.worth(3, 0, 9, true), -9);
         own.due("who swore nothing", z.worth(0, 0, 9, true), 0);
+        OathYesterday first = firstAlone();
+        first.swear(5, 3, 3, 9);
+        first.swear(4, 0, 3, 7);
+        own.due("others cost nothing in the first life alone", first.worth(4, 0, 0, true), 0);
+        own.due("nor where another fact is so", first.worth(4, 0, 1, false), 0);
         Bound told = Bound.term(24, "WORTH of a FACT (not told yet) to a PERSON");
         OathYesterday rich = Bound.rich();
         // b is done on day 2, or never: without it the 6 of b are lost, in a life that 20 is not.

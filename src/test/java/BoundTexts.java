@@ -184,6 +184,13 @@ final class BoundTexts {
         none.due("the shortest oath", Bound.taped("e").fault(1), NONE);
         none.due("a land of 120 bytes", Bound.taped("t2;e" + " ".repeat(116)).fault(0), NONE);
         none.due("an oath of 120 bytes", Bound.taped("a&".repeat(59) + "a1").fault(1), NONE);
+        for (String text : new String[] {"t6;ep5f1l2;ep4", "!b|#3&c", "t2;ep5x", "!(b", ""}) {
+            OathYesterday asked = eight(text);
+            for (int i = 0; i < 4; i++) {
+                asked.fault(i % 2);
+            }
+            sorts.due("to ask of \"" + text + "\" changes nothing", Bound.look(asked).equals(Bound.look(eight(text))), true);
+        }
         Bound.of(4, "-2: no such sort.").refusedBy("fault", Bound::rich, -2, (x, v) -> x.fault(v), -2, -1, 2, 3);
     }
 
@@ -263,6 +270,14 @@ final class BoundTexts {
             b.due("p" + p, Check.deed(x, 1, 0), p);
             b.due("without", Check.deed(x, 0, 0), 0);
             b.due("without, behind one", Check.deed(x, 2, 0), 0);
+            Check.land(x, "t2;ep" + p);
+            Check.land(x, "t2;e;e");
+            b.due("without, in a land behind one", Check.deed(x, 0, 0), 0);
+            b.due("likewise of the second deed", Check.deed(x, 1, 0), 0);
+            Check.tape(x, "t2;ep" + p + ";ep" + p + "x");
+            x.fault(0);
+            Check.land(x, "t2;e;e");
+            b.due("without, behind a faulty text", Check.deed(x, 0, 0), 0);
         }
     }
 
