@@ -2,6 +2,8 @@
 final class BoundActs {
     private static final int NONE = OathYesterday.NONE;
     private static final int HIDDEN = OathYesterday.HIDDEN;
+    /** Dates on which the facts of full() tell that a deed was not done. */
+    private static final int[] DATES_OUT = {0, 3, 9, 5};
 
     private BoundActs() {
     }
@@ -18,6 +20,8 @@ final class BoundActs {
         weigh();
         stake();
         image();
+        imageOfAll();
+        weightsOfAll();
         back();
         count();
         refusals();
@@ -322,6 +326,114 @@ final class BoundActs {
         }
         x.weigh(1, 2, 5);
         x.weigh(1, 9, 3);
+    }
+
+    /** Ten sworn ones and twenty facts, no two alike, in turns: a sworn one behind each second fact. */
+    private static OathYesterday full() {
+        OathYesterday x = Check.made(Bound.BIG, "a", "b", "c", "d", "e", "a|!a", "b|!b", "!(c&!c)");
+        for (int i = 0; i < 20; i++) {
+            x.fact(i % 5, DATES_OUT[i / 5], false);
+            if (i % 2 == 1) {
+                int k = i / 2;
+                x.swear(k % 6, 5 + k % 3, k % 7, 9 * k + 3);
+            }
+        }
+        return x;
+    }
+
+    /** Whatever was told in their places since, each act and the order of them are as they were. */
+    private static void imageOfAll() {
+        Bound b = Bound.term(47, "BACK: they are so again.");
+        OathYesterday x = full();
+        b.due("acts", x.image(), 30);
+        b.due("lives", x.lives(false, NONE), 243);
+        while (x.undo() != NONE) {
+            x.weigh(0, 0, 2);
+        }
+        for (int i = 0; i < 20; i++) {
+            x.swear(5 - i % 6, i % 5, 6 - i % 7, 98 - i);
+        }
+        for (int i = 0; i < 20; i++) {
+            x.fact(4 - i % 5, 2, true);
+        }
+        b.due("other acts", x.count(6), 30);
+        b.due("no life", x.lives(true, NONE), 0);
+        b.due("back", x.back(), 30);
+        for (int k = 0; k < 10; k++) {
+            int[] want = {k % 6, 5 + k % 3, k % 7, 9 * k + 3};
+            for (int what = 0; what < 4; what++) {
+                b.due("sworn(" + k + ", " + what + ")", x.sworn(k, what), want[what]);
+            }
+        }
+        int[] options = {3, 3, 3, 3, 3};
+        for (int i = 19; i >= 0; i--) {
+            int lives = options[0] * options[1] * options[2] * options[3] * options[4];
+            b.due("lives with " + (i + 1) + " facts", x.lives(false, NONE), lives);
+            b.due("they fit with " + (i + 1) + " facts", x.lives(true, NONE), lives);
+            if (i % 2 == 1) {
+                x.undo();
+                b.due("sworn with " + (i + 1) + " facts", x.count(4), i / 2);
+            }
+            x.undo();
+            b.due("facts", x.count(5), i);
+            options[i % 5]++;
+        }
+        b.due("no more", x.undo(), NONE);
+    }
+
+    private static int weightToTell(int deed, int date) {
+        return (3 * deed + 7 * date + 2) % 10;
+    }
+
+    private static void weighAll(OathYesterday x, int more) {
+        for (int deed = 0; deed < 5; deed++) {
+            for (int day = 0; day < 6; day++) {
+                x.weigh(deed, day, (weightToTell(deed, day) + more) % 10);
+            }
+            x.weigh(deed, 9, (weightToTell(deed, 6) + more) % 10);
+        }
+    }
+
+    /** The odds that each deed is done ahead of each day; weights are all 1, or as they were told. */
+    private static void weightsAre(Bound b, String what, OathYesterday x, boolean told) {
+        for (int deed = 0; deed < 5; deed++) {
+            int all = 0;
+            for (int date = 0; date < 7; date++) {
+                all += told ? weightToTell(deed, date) : 1;
+            }
+            int ahead = 0;
+            for (int day = 0; day <= 6; day++) {
+                int divisor = divisorOf(ahead, all);
+                String odds = what + ": odds(" + deed + ", " + day + ")";
+                b.due(odds, x.odds(deed, day, 0), ahead / divisor);
+                b.due(odds + " (below)", x.odds(deed, day, 1), all / divisor);
+                ahead += told ? weightToTell(deed, day) : 1;
+            }
+        }
+    }
+
+    private static int divisorOf(int above, int below) {
+        return above == 0 ? below : divisorOf(below % above, above);
+    }
+
+    /** Each weight of each deed, never among them, is told, kept, brought back, and gone with the land. */
+    private static void weightsOfAll() {
+        Bound told = Bound.of(25, "A WEIGHT.");
+        OathYesterday x = Bound.big("a", "b", "c", "d", "e");
+        weightsAre(told, "1 at first", x, false);
+        weighAll(x, 0);
+        weightsAre(told, "told", x, true);
+        Bound kept = Bound.term(46, "An IMAGE keeps SWORN, FACTS, WEIGHTS (GAINS not)");
+        kept.due("image", x.image(), 0);
+        weighAll(x, 5);
+        kept.due("back", x.back(), 0);
+        weightsAre(kept, "back", x, true);
+        weighAll(x, 1);
+        x.back();
+        weightsAre(kept, "back once more", x, true);
+        Bound gone = Bound.of(5, "(SWORN, FACTS, WEIGHTS, IMAGE of another one are gone; OATHS stay, and their GAINS)");
+        Check.land(x, Bound.BIG);
+        weightsAre(gone, "another land", x, false);
     }
 
     private static void back() {

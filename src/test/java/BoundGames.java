@@ -174,6 +174,20 @@ final class BoundGames {
         OathYesterday x = Check.made("t2;e", "#0", "a");
         x.swear(0, 1, 2, 0);
         plan(least, "# of what is sworn", x, 0, 2, 0, 0);
+        planAmongMany(least);
+    }
+
+    /** 00121 is the 64th of 16807 lives behind the least one: the others have to be held against it, too. */
+    private static void planAmongMany(Bound least) {
+        String one = "a0&b0&c1&!c0&d2&!d1&e1&!e0";
+        String last = "a5&!a4&b5&!b4&c5&!c4&d5&!d4&e5&!e4";
+        String never = "!(a|b|c|d|e)";
+        OathYesterday x = Bound.big(one + "|" + last, "!a0", last, one, never + "|" + one, never);
+        plan(least, "two of many, one life is left", x, 2, 6, 2, 3);
+        plan(least, "the other one is left", x, 3, 6, 2, 17);
+        plan(least, "what is left is otherwise", Bound.big(one + "|" + last, "!a0", "a4&!a3"), 2, 6, NONE, NONE);
+        plan(least, "one is enough for what is seen", x, 4, 0, 0, 0);
+        plan(least, "of three the two", x, 5, 6, 2, 18);
     }
 
     private static void planRefused() {

@@ -1,34 +1,50 @@
 import java.util.NoSuchElementException;
 import java.util.Random;
 
-/** Runs of calls by fixed seeds on the class and on the model; each answer has to be the same. */
+/**
+ * Runs of calls by fixed seeds on the class and on the model; each answer has to be the same. Plain
+ * runs come to lands where nothing fits, and to much that is refused; lively ones undo what leaves
+ * no life (one that fits, or one that is possible), and ask in bounds.
+ */
 final class ModelTest {
-    private static final int CALLS = 512;
+    /** What a run's last step takes beyond them (30 acts undone at most) stays below 512. */
+    private static final int CALLS = 480;
     private static final int KINDS = 48;
     private static final long THROWN = -987654321L;
+    /** What lively runs ask; what answers seldom otherwise, more often. */
+    private static final int[] LIVELY = {8, 9, 10, 11, 12, 12, 13, 14, 15, 16, 17, 17, 18, 19, 20, 20, 21, 21, 21, 23, 24,
+        25, 26, 27, 29, 30, 31, 31, 33, 34, 35, 36, 37, 38, 39, 40, 41, 43, 44};
 
     private final Random random;
     private final OathYesterday x = new OathYesterday();
     private final Model m = new Model();
     private final int size;
+    private final boolean lively;
     private final StringBuilder story = new StringBuilder();
     private int calls = 0;
     private int landDays = 3;
 
-    private ModelTest(long seed, int size) {
+    private ModelTest(long seed, int size, boolean lively) {
         random = new Random(seed);
         this.size = size;
+        this.lively = lively;
     }
 
     static void run() {
         for (int seed = 1; seed <= 300; seed++) {
-            new ModelTest(seed, 2 + seed % 2).play(seed, CALLS);
+            new ModelTest(seed, 2 + seed % 2, false).play(seed, CALLS);
         }
         for (int seed = 1001; seed <= 1020; seed++) {
-            new ModelTest(seed, 4).play(seed, 200);
+            new ModelTest(seed, 4, false).play(seed, 200);
         }
         for (int seed = 2001; seed <= 2004; seed++) {
-            new ModelTest(seed, 5).play(seed, 90);
+            new ModelTest(seed, 5, false).play(seed, 90);
+        }
+        for (int seed = 3001; seed <= 3200; seed++) {
+            new ModelTest(seed, 2 + seed / 2 % 2, true).play(seed, CALLS);
+        }
+        for (int seed = 4001; seed <= 4010; seed++) {
+            new ModelTest(seed, 4, true).play(seed, 250);
         }
     }
 
@@ -37,7 +53,11 @@ final class ModelTest {
         boolean wild = seed % 10 == 0;
         begin();
         while (calls < atMost && Check.failed == failedAhead) {
-            step(wild);
+            if (lively) {
+                stepLively(seed % 2 == 0);
+            } else {
+                step(wild);
+            }
         }
         if (Check.failed > failedAhead) {
             System.out.println("seed " + seed + ", last calls:" + tail());
@@ -50,12 +70,12 @@ final class ModelTest {
     }
 
     private void begin() {
-        if (random.nextInt(4) == 0) {
+        if (!lively && random.nextInt(4) == 0) {
             return;
         }
         tape(landText());
         call(2, 0, 0, 0, 0);
-        int n = 1 + random.nextInt(8);
+        int n = lively ? 4 + random.nextInt(5) : 1 + random.nextInt(8);
         for (int i = 0; i < n; i++) {
             tape(oathText(0));
             call(2, 1, 0, 0, 0);
@@ -102,6 +122,55 @@ final class ModelTest {
         }
         if ((kind == 8 || kind == 26 || kind == 29) && random.nextInt(3) == 0) {
             args[kind == 29 ? 2 : 1] = -1;
+        }
+        call(kind, args[0], args[1], args[2], args[3]);
+    }
+
+    /** Lives that fit stay, or (fits false) lives that are possible, whatever was sworn. */
+    private void stepLively(boolean fits) {
+        if (random.nextInt(4) > 0) {
+            askLively();
+            return;
+        }
+        int dice = random.nextInt(10);
+        if (dice < 4) {
+            int day = landDays - (random.nextInt(3) == 0 ? random.nextInt(landDays) : 0);
+            call(4, random.nextInt(3), random.nextInt(m.count(2)), day, 1 + cost());
+        } else if (dice < 6) {
+            call(6, random.nextInt(size), date(), random.nextInt(6) == 0 ? 1 : 0, 0);
+        } else if (dice < 7) {
+            call(22, random.nextInt(size), date(), random.nextInt(10), 0);
+        } else if (dice < 8) {
+            call(28, random.nextInt(m.count(2)), random.nextInt(100), 0, 0);
+        } else if (dice < 9) {
+            call(45 + random.nextInt(2), 0, 0, 0, 0);
+        } else {
+            for (int n = random.nextInt(6); n > 0; n--) {
+                call(7, 0, 0, 0, 0);
+            }
+        }
+        while (m.count(6) > 0 && m.lives(fits, -1) == 0) {
+            call(7, 0, 0, 0, 0);
+        }
+    }
+
+    private void askLively() {
+        int kind = LIVELY[random.nextInt(LIVELY.length)];
+        int[] spans = spansOf(kind);
+        int[] args = new int[4];
+        for (int i = 0; i < 4; i++) {
+            boolean isOath = spans[i] == 8 && kind != 26;
+            args[i] = random.nextInt(isOath ? m.count(2) : spans[i]);
+        }
+        if (kind == 9 || kind == 26 || kind == 35) {
+            args[kind == 9 ? 2 : 0] = someLife();
+        }
+        if (kind == 26 || kind == 29) {
+            args[kind == 29 ? 2 : 1] = random.nextInt(4) - 1;
+        }
+        if (kind == 21) {
+            args[0] = random.nextInt(3);
+            args[2] = date();
         }
         call(kind, args[0], args[1], args[2], args[3]);
     }
@@ -309,7 +378,7 @@ final class ModelTest {
     private String landText() {
         int days = 2 + random.nextInt(size > 3 ? 5 : 4);
         StringBuilder t = new StringBuilder("t").append(days);
-        int deeds = size > 3 ? size : 1 + random.nextInt(size);
+        int deeds = lively || size > 3 ? size : 1 + random.nextInt(size);
         for (int i = 0; i < deeds; i++) {
             t.append(";e");
             if (random.nextInt(3) > 0) {
